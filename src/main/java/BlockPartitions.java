@@ -218,7 +218,7 @@ public final class BlockPartitions {
         for (int b = 0; b < n; b++) {
             int parts = partsOf(b);
             for (int s = 1; s < parts; s++) {
-                // Over all s, steps / s is how the steps of this block can lie among those before.
+                // Multiplied over all s, steps / s counts how these steps can lie among the earlier ones.
                 steps++;
                 chains = chains * steps / s;
                 // The step that leaves s of the parts merges two of s + 1.

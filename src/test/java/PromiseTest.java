@@ -101,6 +101,9 @@ public final class PromiseTest {
         }
         Due.due("put of all in one", x.put(0, 0), 1);
         state("put of all in one", x, 0, second);
+        x.move(0, 0, 0);
+        Due.due("put after a move", x.put(0, Due.code(0, 1, 1, 0)), 2);
+        state("put after a move", x, Due.code(0, 1, 1, 0), second);
         BlockPartitions seven = new BlockPartitions(7);
         Due.due("put in 7", seven.put(1, Due.code(0, 1, 2, 3, 4, 5, 0)), 6);
         Due.due("put beyond 7", seven.put(1, 1 << 21), BAD_ARG);
@@ -174,6 +177,11 @@ public final class PromiseTest {
         BlockPartitions whole = with(4, 0, Due.code(0, 1, 1, 2));
         Due.due("meet() with the whole", whole.meet(), 3);
         state("meet() with the whole", whole, Due.code(0, 1, 1, 2), Due.code(0, 1, 1, 2));
+        BlockPartitions seven = with(7, Due.code(0, 1, 2, 3, 4, 5, 0), Due.code(0, 1, 1, 1, 1, 1, 0));
+        seven.move(1, 0, 0);
+        seven.move(1, 0, 6);
+        Due.due("meet() of 7", seven.meet(), 6);
+        state("meet() of 7", seven, Due.code(0, 1, 2, 3, 4, 5, 0), Due.code(0, 1, 1, 1, 1, 1, 0));
     }
 
     private static void promise7Join() {
@@ -184,6 +192,9 @@ public final class PromiseTest {
         BlockPartitions linked = with(6, Due.code(0, 0, 1, 1, 2, 2), Due.code(0, 1, 1, 2, 2, 3));
         Due.due("join() all linked", linked.join(), 1);
         state("join() all linked", linked, 0, Due.code(0, 1, 1, 2, 2, 3));
+        BlockPartitions ends = with(7, Due.code(0, 1, 2, 3, 4, 5, 6), Due.code(0, 1, 2, 3, 4, 5, 0));
+        Due.due("join() of the ends", ends.join(), 6);
+        state("join() of the ends", ends, Due.code(0, 1, 2, 3, 4, 5, 0), Due.code(0, 1, 2, 3, 4, 5, 0));
         BlockPartitions crossing = with(4, Due.code(0, 1, 0, 2), Due.code(0, 1, 2, 1));
         Due.due("join() that crosses", crossing.join(), 2);
         state("join() that crosses", crossing, Due.code(0, 1, 0, 1), Due.code(0, 1, 2, 1));
