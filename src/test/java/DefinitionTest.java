@@ -317,8 +317,6 @@ public final class DefinitionTest {
 
     private void everyPair() {
         int many = all.size();
-        // Meets and joins of 7 points are too many to search for; every 13th pair is looked at.
-        int step = n == 7 ? 13 : 1;
         for (int p = 0; p < many; p++) {
             long[] chains = new long[many];
             long[] signs = new long[many];
@@ -328,7 +326,7 @@ public final class DefinitionTest {
                 countBelow(p, q, between, chains, signs);
                 comparePair(p, q, between, chains[q], signs[q]);
             }
-            for (int q = p % step; q < many; q += step) {
+            for (int q = 0; q < many; q++) {
                 compareMeetAndJoin(p, q);
             }
         }
