@@ -1,4 +1,3 @@
-import java.util.ArrayList;
 import java.util.Arrays;
 import java.util.BitSet;
 import java.util.List;
@@ -13,7 +12,7 @@ public final class DefinitionTest {
     private static final int CALLS_OF_ONE = 400;
 
     private final int n;
-    private final List<int[]> all = new ArrayList<>();
+    private final List<int[]> all;
     private final TreeMap<Integer, Integer> placeOfCode = new TreeMap<>();
     private final int[] codes;
     private final int[] blocks;
@@ -40,7 +39,7 @@ public final class DefinitionTest {
 
     private DefinitionTest(int n) {
         this.n = n;
-        listPartitions();
+        all = Reference.all(n);
         int many = all.size();
         codes = new int[many];
         blocks = new int[many];
@@ -51,8 +50,8 @@ public final class DefinitionTest {
         for (int p = 0; p < many; p++) {
             codes[p] = Due.code(all.get(p));
             placeOfCode.put(codes[p], p);
-            blocks[p] = (int) Arrays.stream(all.get(p)).distinct().count();
-            crossing[p] = isCrossing(all.get(p));
+            blocks[p] = Reference.blocks(all.get(p));
+            crossing[p] = Reference.isCrossing(all.get(p));
             coarser[p] = new BitSet();
             finer[p] = new BitSet();
             steps[p] = new BitSet();
@@ -64,7 +63,7 @@ public final class DefinitionTest {
         int many = all.size();
         for (int p = 0; p < many; p++) {
             for (int q = 0; q < many; q++) {
-                if (liesIn(all.get(p), all.get(q))) {
+                if (Reference.isFiner(all.get(p), all.get(q))) {
                     coarser[p].set(q);
                     finer[q].set(p);
                 }
@@ -85,64 +84,6 @@ public final class DefinitionTest {
     }
 
     // The document's words
-
-    /** Every way to mark the points, with the marks made block numbers, sorted by them. */
-    private void listPartitions() {
-        TreeMap<int[], Boolean> sorted = new TreeMap<>(Arrays::compare);
-        int ways = 1;
-        for (int i = 0; i < n; i++) {
-            ways *= n;
-        }
-        for (int way = 0; way < ways; way++) {
-            int[] marks = new int[n];
-            int left = way;
-            for (int i = 0; i < n; i++) {
-                marks[i] = left % n;
-                left /= n;
-            }
-            sorted.put(numbered(marks), true);
-        }
-        all.addAll(sorted.keySet());
-    }
-
-    /** The block numbers of points that share a block if their marks are equal. */
-    private static int[] numbered(int[] marks) {
-        List<Integer> inOrderOfLeastPoints = new ArrayList<>();
-        int[] numbers = new int[marks.length];
-        for (int i = 0; i < marks.length; i++) {
-            if (!inOrderOfLeastPoints.contains(marks[i])) {
-                inOrderOfLeastPoints.add(marks[i]);
-            }
-            numbers[i] = inOrderOfLeastPoints.indexOf(marks[i]);
-        }
-        return numbers;
-    }
-
-    private static boolean isCrossing(int[] p) {
-        for (int i = 0; i < p.length; i++) {
-            for (int j = i + 1; j < p.length; j++) {
-                for (int k = j + 1; k < p.length; k++) {
-                    for (int l = k + 1; l < p.length; l++) {
-                        if (p[i] == p[k] && p[j] == p[l] && p[i] != p[j]) {
-                            return true;
-                        }
-                    }
-                }
-            }
-        }
-        return false;
-    }
-
-    private static boolean liesIn(int[] p, int[] q) {
-        for (int i = 0; i < p.length; i++) {
-            for (int j = 0; j < p.length; j++) {
-                if (p[i] == p[j] && q[i] != q[j]) {
-                    return false;
-                }
-            }
-        }
-        return true;
-    }
 
     /** The one partition of these with the most blocks. */
     private int most(BitSet places) {
@@ -179,7 +120,7 @@ public final class DefinitionTest {
                 both[2 * i] = all.get(p)[i];
                 both[2 * i + 1] = n + all.get(q)[i];
             }
-            if ((best < 0 || blocks[q] <= blocks[best]) && !isCrossing(both)) {
+            if ((best < 0 || blocks[q] <= blocks[best]) && !Reference.isCrossing(both)) {
                 ties = best >= 0 && blocks[q] == blocks[best] ? ties + 1 : 0;
                 best = q;
             }
@@ -266,7 +207,7 @@ public final class DefinitionTest {
     }
 
     private int placeOf(int[] marks) {
-        return placeOfCode.get(Due.code(numbered(marks)));
+        return placeOfCode.get(Due.code(Reference.numbered(marks)));
     }
 
     private void everyChange() {

@@ -1,8 +1,10 @@
 /** What the tests share: comparing answers with those due, and codes from block numbers. */
 final class Due {
-    private static final int MOST_SHOWN = 50;
+    private static final int MOST_SHOWN = 20;
     private static int wrong = 0;
+    private static int shown = 0;
     private static long calls = 0;
+    private static String about = "";
 
     private Due() {
     }
@@ -10,10 +12,31 @@ final class Due {
     static void due(String call, long got, long want) {
         calls++;
         if (got != want) {
-            wrong++;
-            if (wrong <= MOST_SHOWN) {
-                System.out.println(call + " answered " + got + ", due is " + want);
-            }
+            fault(call + " answered " + got + ", due is " + want);
+        }
+    }
+
+    /** Runs the test of one of the document's sentences; it must look at some answers, and not throw. */
+    static void sentence(String words, Runnable test) {
+        about = "\"" + words + "\": ";
+        shown = 0;
+        long before = calls;
+        try {
+            test.run();
+        } catch (RuntimeException | StackOverflowError thrown) {
+            fault("threw " + thrown);
+        }
+        if (calls == before) {
+            fault("no answer was looked at");
+        }
+        about = "";
+    }
+
+    private static void fault(String text) {
+        wrong++;
+        shown++;
+        if (shown <= MOST_SHOWN) {
+            System.out.println(about + text);
         }
     }
 

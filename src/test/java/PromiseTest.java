@@ -1,8 +1,7 @@
-/** Each promise with answers worked out by hand: ordinary inputs, the named edges, wrong inputs. */
+/** Each promise with answers worked out by hand; EdgeTest and RefusalTest go through its edges one by one. */
 public final class PromiseTest {
     private static final int BAD_ARG = -1000000;
     private static final int NONE = -1000001;
-    private static final int[] NO_ELEMENTS = {-1, 2, 7, -1000000, Integer.MIN_VALUE, Integer.MAX_VALUE};
 
     public static void main(String[] args) {
         constants();
@@ -26,8 +25,6 @@ public final class PromiseTest {
         promise18FullChains();
         promise19Sign();
         promise20Uncrossed();
-        wrongElements();
-        wrongPoints();
         Due.end();
     }
 
@@ -367,52 +364,5 @@ public final class PromiseTest {
         Due.due("uncrossed of a crossing", crossed.uncrossed(0), NONE);
         Due.due("uncrossed beside a crossing", crossed.uncrossed(1), 25);
         state("uncrossed", crossed, Due.code(0, 1, 0, 1, 2, 2, 2), Due.code(0, 0, 1, 1, 1, 0, 2));
-    }
-
-    private static void wrongElements() {
-        // Element 0 has a crossing: BAD_ARG must come before NONE, whatever is wrong beside.
-        int first = Due.code(0, 1, 0, 1, 2);
-        int second = Due.code(0, 0, 1, 2, 2);
-        for (int e : NO_ELEMENTS) {
-            BlockPartitions x = with(5, first, second);
-            for (int code : new int[] {0, 8, 16, -1}) {
-                Due.due("put(" + e + ", " + code + ")", x.put(e, code), BAD_ARG);
-            }
-            for (int i : new int[] {0, 4, 5, -1}) {
-                Due.due("merge(" + e + ", " + i + ", 1)", x.merge(e, i, 1), BAD_ARG);
-                Due.due("move(" + e + ", " + i + ", 1)", x.move(e, i, 1), BAD_ARG);
-                Due.due("move(" + e + ", " + i + ", " + i + ")", x.move(e, i, i), BAD_ARG);
-                Due.due("size(" + e + ", " + i + ")", x.size(e, i), BAD_ARG);
-            }
-            Due.due("turn(" + e + ")", x.turn(e), BAD_ARG);
-            Due.due("uncross(" + e + ")", x.uncross(e), BAD_ARG);
-            Due.due("complement(" + e + ")", x.complement(e), BAD_ARG);
-            Due.due("code(" + e + ")", x.code(e), BAD_ARG);
-            Due.due("blocks(" + e + ")", x.blocks(e), BAD_ARG);
-            Due.due("crosses(" + e + ")", x.crosses(e), BAD_ARG);
-            Due.due("rank(" + e + ")", x.rank(e), BAD_ARG);
-            Due.due("uncrossed(" + e + ")", x.uncrossed(e), BAD_ARG);
-            state("calls with element " + e, x, first, second);
-        }
-    }
-
-    private static void wrongPoints() {
-        int first = Due.code(0, 1, 0, 1, 2);
-        int second = Due.code(0, 0, 1, 2, 2);
-        for (int bad : new int[] {-1, 5, 6, 7, 12, -7, Integer.MIN_VALUE, Integer.MAX_VALUE}) {
-            BlockPartitions x = with(5, first, second);
-            for (int e = 0; e < 2; e++) {
-                for (int good : new int[] {0, 4}) {
-                    Due.due("merge(" + e + ", " + bad + ", " + good + ")", x.merge(e, bad, good), BAD_ARG);
-                    Due.due("merge(" + e + ", " + good + ", " + bad + ")", x.merge(e, good, bad), BAD_ARG);
-                    Due.due("move(" + e + ", " + bad + ", " + good + ")", x.move(e, bad, good), BAD_ARG);
-                    Due.due("move(" + e + ", " + good + ", " + bad + ")", x.move(e, good, bad), BAD_ARG);
-                }
-                Due.due("merge(" + e + ", " + bad + ", " + bad + ")", x.merge(e, bad, bad), BAD_ARG);
-                Due.due("move(" + e + ", " + bad + ", " + bad + ")", x.move(e, bad, bad), BAD_ARG);
-                Due.due("size(" + e + ", " + bad + ")", x.size(e, bad), BAD_ARG);
-            }
-            state("calls with point " + bad, x, first, second);
-        }
     }
 }
