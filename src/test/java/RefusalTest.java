@@ -263,5 +263,30 @@ public final class RefusalTest {
             Due.due("merge(0, 0, 1), call " + call, refused.merge(0, 0, 1), BAD_ARG);
         }
         Due.due("uncrossed(1), call 512", refused.uncrossed(1), 1);
+        BlockPartitions complements = new BlockPartitions(7);
+        for (int call = 1; call <= 512; call++) {
+            Due.due("complement(0), call " + call, complements.complement(0), call % 2 == 1 ? 1 : 7);
+        }
+        sameTo512(1);
+        sameTo512(7);
+    }
+
+    /** Calls whose answer stays the same, from a finest element 0 and a coarsest element 1 on. */
+    private static void sameTo512(int n) {
+        int alone = Due.code(Reference.alone(n));
+        int last = n - 1;
+        Watch.Call[] calls = {
+            x -> x.put(0, alone), x -> x.merge(0, 0, 0), x -> x.move(0, last, last), x -> x.turn(0), x -> x.turn(1),
+            x -> x.meet(), x -> x.join(), x -> x.uncross(1), x -> x.code(0), x -> x.blocks(0), x -> x.size(1, last),
+            x -> x.crosses(0), x -> x.rank(0), x -> x.partition(1), x -> x.finer(), x -> x.interval(),
+            x -> x.fullChains(), x -> x.sign(), x -> x.uncrossed(1)};
+        for (int c = 0; c < calls.length; c++) {
+            BlockPartitions x = new BlockPartitions(n);
+            x.put(1, 0);
+            int early = calls[c].on(x);
+            for (int call = 3; call <= 512; call++) {
+                Due.due(n + " points, calls[" + c + "], call " + call, calls[c].on(x), early);
+            }
+        }
     }
 }
